@@ -262,6 +262,16 @@ public final class PromiseTest {
         x = told(".EB.b.e", 5, "00 22");
         due("a note, and what it holds", placed(x, 4), "1-2 2");
         due("a note, and what it holds", placed(x, 1), "1-1 0");
+        x = told("Bb.Ee", 1, "00");
+        due("empty ones, each at its end", placed(x, 1) + ", " + placed(x, 4), "0-0 0, 1-1 0");
+        x = told("EDd.e", 3, "02");
+        due("what is held does not lie round what holds it", placed(x, 3) + ", " + placed(x, 4), "0-0 0, 0-1 4");
+        x = told("C.cA.aB.bE.e", 8, "00 04 14 17 24 27 34 37");
+        due("a linked one loses a word", placed(x, 2), "0-4 3");
+        x = told("D.dA.aB.bE.e", 8, "00 04 14 17 24 27 34 37");
+        due("the other linked one loses a word", placed(x, 3), "0-4 3");
+        x = told("B.bA.aC.cE.e", 8, "00 04 14 17 24 27 34 37");
+        due("a style loses a word", placed(x, 1), "0-4 1");
         x = told("A.aB.b", 2, "00 11");
         due("beside each other", placed(x, 0) + ", " + placed(x, 1), "0-1 0, 1-2 0");
         x = told("A.aB.bC.cD.dE.e", 1, "00 10 20 30 40");
@@ -277,6 +287,10 @@ public final class PromiseTest {
         x = told("A..aB..b", 8, "03 17 21 35");
         due("PAIR 0 begins the least", placed(x, 0), "1-8 2");
         due("then PAIR 1", placed(x, 1), "1-6 0");
+        x = told(".EDd.e", 4, "02 11");
+        due("PAIR 3 ahead of PAIR 4", placed(x, 3) + ", " + placed(x, 4), "2-2 2, 1-2 0");
+        x = told("E.eB.b", 3, "00 01 11 12");
+        due("begins ahead of ends", placed(x, 1) + ", " + placed(x, 4), "0-3 1, 0-2 0");
     }
 
     private static void mark() {
