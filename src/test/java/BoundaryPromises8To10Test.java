@@ -64,6 +64,19 @@ public final class BoundaryPromises8To10Test {
         Due.due("another TARGET", x.placed(0), "0-0");
     }
 
+    @Holds(in = "Promise 8", says = "PLACED from (6), to (7),")
+    static void promise8_pair_what6And7_nothingStaysOfPairsAndWordsThatWereThereBefore() {
+        Counted x = Counted.told("A.aB.bC.cD.dE.e", 8, "00 03 11 14 22 25 33 36 44 47");
+        Due.due("five that cross are moved", x.total(0) > 0, true);
+        x.tell("C.cE.e", 3, "00 12");
+        Due.due("two in a lesser TARGET", x.carried(2) + ", " + x.carried(4), "0-1 at 0, 2-3 at 0");
+        x.tell("E.e", 8, "07");
+        Due.due("one in a greater TARGET", x.carried(4), "7-8 at 0");
+        Due.due("all", x.total(0), 0);
+        x.tell("..", 8, "07");
+        Due.due("none", x.total(0), 0);
+    }
+
     @Holds(in = "Promise 8", says = "its COST (8),")
     static void promise8_pair_what8_noneAndSome() {
         Due.due("none", Counted.told("A.a", 8, "07").pair(0, 8), 0);
@@ -138,6 +151,18 @@ public final class BoundaryPromises8To10Test {
         Due.due("the next one is WANTED ahead", x.mark(0, 2) + " " + x.mark(1, 2), "2 2");
         x.link(0, 4);
         Due.due("the first one has no LINK ahead", x.mark(0, 2) + " " + x.mark(1, 2), "0 2");
+    }
+
+    @Holds(in = "Promise 9", says = "PLACED (2).")
+    static void promise9_mark_what2_nothingStaysOfMarksThatWereThereBefore() {
+        Counted x = Counted.told(".z.y.x", 8, "07 13 20");
+        Due.due("three are moved", x.total(1), 7);
+        x.tell(".x.y", 8, "05 17");
+        Due.due("two", x.mark(0, 2) + " " + x.mark(1, 2) + ", moved " + x.total(1), "6 8, moved 0");
+        x.tell(".z", 8, "07");
+        Due.due("one", x.mark(2, 2) + ", moved " + x.total(1), "8, moved 0");
+        x.tell(".", 8, "07");
+        Due.due("none", x.total(1), 0);
     }
 
     @Holds(in = "Promise 9", says = NOT_THERE)
