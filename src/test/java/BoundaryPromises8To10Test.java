@@ -157,6 +157,10 @@ public final class BoundaryPromises8To10Test {
     static void promise9_mark_what2_nothingStaysOfMarksThatWereThereBefore() {
         Counted x = Counted.told(".z.y.x", 8, "07 13 20");
         Due.due("three are moved", x.total(1), 7);
+        x.tell("y.", 8, "07");
+        Due.due("one at GAP 0", x.mark(1, 2) + ", moved " + x.total(1), "0, moved 0");
+        x.tell(".z.y.x", 8, "07 13 20");
+        Due.due("three are moved again", x.total(1), 7);
         x.tell(".x.y", 8, "05 17");
         Due.due("two", x.mark(0, 2) + " " + x.mark(1, 2) + ", moved " + x.total(1), "6 8, moved 0");
         x.tell(".z", 8, "07");
