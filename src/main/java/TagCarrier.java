@@ -670,6 +670,8 @@ public final class TagCarrier {
     private static final class Writer {
         final int[] signs = new int[WRITTEN_SIGNS];
         int count;
+        /** Of PAIRS that close, or open, in one GAP, that of the greatest rank comes first. */
+        private final int[] ranks = new int[PAIRS];
 
         void write(Sentences told, PairPlacer pairs, MarkPlacer marks) {
             count = 0;
@@ -697,10 +699,12 @@ public final class TagCarrier {
             int first = empty & heldByAny(source, closing);
             int last = empty & ~first & heldByAny(source, opening);
             addEmpty(first);
-            addClosing(source, pairs, closing);
+            rankClosing(source, pairs);
+            addRanked(closing, 'a');
             addMarks(source, marks, gap);
             addEmpty(empty & ~first & ~last);
-            addOpening(source, pairs, opening);
+            rankOpening(source, pairs);
+            addRanked(opening, 'A');
             addEmpty(last);
         }
 
@@ -723,31 +727,37 @@ public final class TagCarrier {
             }
         }
 
-        private void addClosing(Source source, PairPlacer pairs, int set) {
+        /** What was opened later closes first; of one GAP by DEPTH, then by number, the greatest first. */
+        private void rankClosing(Source source, PairPlacer pairs) {
+            for (int p = 0; p < PAIRS; p++) {
+                ranks[p] = (pairs.from[p] * PAIRS + source.depth(p)) * PAIRS + p;
+            }
+        }
+
+        /** What closes later opens first; of one GAP by DEPTH, then by number, the least first. */
+        private void rankOpening(Source source, PairPlacer pairs) {
+            for (int p = 0; p < PAIRS; p++) {
+                ranks[p] = (pairs.to[p] * PAIRS - source.depth(p)) * PAIRS - p;
+            }
+        }
+
+        private void addRanked(int set, int firstSign) {
             int left = set;
             for (int i = 0; i < PAIRS && left != 0; i++) {
-                int next = nextClosing(source, pairs, left);
-                add('a' + next);
+                int next = greatestRank(left);
+                add(firstSign + next);
                 left &= ~(1 << next);
             }
         }
 
-        private static int nextClosing(Source source, PairPlacer pairs, int set) {
+        private int greatestRank(int set) {
             int best = -1;
             for (int p = 0; p < PAIRS; p++) {
-                if (has(set, p) && (best < 0 || closesFirst(source, pairs, p, best))) {
+                if (has(set, p) && (best < 0 || ranks[p] > ranks[best])) {
                     best = p;
                 }
             }
             return best;
-        }
-
-        /** Whether p closes ahead of q, whose number is less. */
-        private static boolean closesFirst(Source source, PairPlacer pairs, int p, int q) {
-            if (pairs.from[p] != pairs.from[q]) {
-                return pairs.from[p] > pairs.from[q];
-            }
-            return source.depth(p) >= source.depth(q);
         }
 
         private void addMarks(Source source, MarkPlacer marks, int gap) {
@@ -757,33 +767,6 @@ public final class TagCarrier {
                     add('x' + mark);
                 }
             }
-        }
-
-        private void addOpening(Source source, PairPlacer pairs, int set) {
-            int left = set;
-            for (int i = 0; i < PAIRS && left != 0; i++) {
-                int next = nextOpening(source, pairs, left);
-                add('A' + next);
-                left &= ~(1 << next);
-            }
-        }
-
-        private static int nextOpening(Source source, PairPlacer pairs, int set) {
-            int best = -1;
-            for (int p = 0; p < PAIRS; p++) {
-                if (has(set, p) && (best < 0 || opensFirst(source, pairs, p, best))) {
-                    best = p;
-                }
-            }
-            return best;
-        }
-
-        /** Whether p opens ahead of q, whose number is less. */
-        private static boolean opensFirst(Source source, PairPlacer pairs, int p, int q) {
-            if (pairs.to[p] != pairs.to[q]) {
-                return pairs.to[p] > pairs.to[q];
-            }
-            return source.depth(p) < source.depth(q);
         }
 
         private void add(int sign) {
