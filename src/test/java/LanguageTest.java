@@ -19,7 +19,7 @@ import javax.tools.StandardJavaFileManager;
 import javax.tools.ToolProvider;
 
 /**
- * The rules of LANGUAGE.md, read off the compiler's own tree of the class. Where a rule allows more
+ * Those rules of LANGUAGE.md that can be read off the compiler's own tree of the class. Where a rule allows more
  * than the class needs, the test allows what the class needs: a new construct is to be looked at.
  */
 public final class LanguageTest {
